@@ -176,10 +176,28 @@ public final class Promises {
         due("the last told", o.worn(0), 3);
         tell(o, "smithy 1 20 00001");
         due("five digits", o.smithy(), 0);
+        due("worn by the text before no more", o.worn(0), 0);
         tell(o, "smithy 1 20 1" + times(";part 0 1", 39));
         due("40 CLAUSES", o.smithy(), 0);
         tell(o, "smithy 9 99 999;smith 20;smith 1;smith 5" + times(";job 2 weld 30 50 50", 8));
         due("8 JOBS", o.smithy(), 8);
+        OneAnvil p = of(THREE, "strike 1", "strike 0");
+        go(p, 7);
+        tell(p, THREE);
+        p.smithy();
+        p.aside(0);
+        p.force(1);
+        go(p, 4);
+        p.force(0);
+        go(p, 1);
+        tell(p, THREE);
+        p.smithy();
+        int[][] want = {{0, 0, 0, 0, 0, 0, 0, 10, 0}, {0, 1, 0, 0, 0, 0, 0, 8, 0}, {0, 2, 0, 0, 0, 0, 0, 15, 0}};
+        for (int i = 0; i < 3; i++) {
+            for (int k = 0; k < 9; k++) due("anew, smith " + i + " " + k, p.smith(i, k), want[i][k]);
+        }
+        for (int j = 0; j < 4; j++) due("anew, job " + j, p.job(j, 5), -1);
+        due("anew, done", p.count(8), 0);
     }
 
     private static void smithyFault(String text, int place, int code) {
@@ -287,6 +305,8 @@ public final class Promises {
         ruleFault("strike hoter", 7, 0);
         ruleFault("strike 1 if", 11, 0);
         ruleFault("strike 1 if 1", 13, 0);
+        ruleFault("strike 1 if 1 2", 14, 0);
+        ruleFault("strike 1 if heat hot", 17, 0);
         ruleFault("strike 1 if hot = 1]", 19, 0);
         ruleFault("strike 1 if [hot = 1", 20, 0);
         ruleFault("strike 1 if [hot = 1;strike 1", 20, 0);
@@ -347,12 +367,31 @@ public final class Promises {
         strikes("strike 1 if not 1=1 or 1=1", 0, true);
         strikes("strike 1 if not [1=1 or 1=1]", 0, false);
         strikes("strike 1 if not not 1=1", 0, true);
+        strikes("strike 1 if 1=2 or 1=1 or 1=2", 0, true);
+        strikes("strike 1 if 1=2 and [1=1]", 0, false);
+        strikes("strike 1 if 1=2 and [1=1 or 1=1]", 0, false);
         strikes("strike 1 if 2<3 and 3<=3 and 3=3 and 3>=3 and 4>3", 0, true);
         strikes("strike 1 if 3<3 or 4<=3 or 4=3 or 2>=3 or 3>3", 0, false);
         strikes("strike 0 if heat=10;strike 1", 0, false);
         strikes("strike 0 if heat=11;strike 1", 0, true);
         strikes("strike 1 if heat=11", 0, false);
         strikes("strike 1;strike 0", 0, true);
+        OneAnvil o = of(TWO_ON_FACE, "strike 1 if smith=0;strike 1 if moment<3;strike waits-2",
+            "strike 1 if smith=0;strike 1 if moment<3;strike waits-3");
+        o.force(0);
+        go(o, 4);
+        due("waits 3", o.smith(1, 3), 4);
+        o.undo();
+        o.force(1);
+        go(o, 1);
+        due("waits 3, not more", o.smith(1, 0), 10);
+        OneAnvil p = of(THREE, "strike hot if done=0", "strike 1 if smith=0 and rivals=1");
+        p.force(0);
+        due("done 1", p.ready(3), -2);
+        due("done 0", p.ready(0), 5);
+        p.force(1);
+        go(p, 1);
+        due("a beak is no face", p.smith(0, 8), 1);
     }
 
     private static void force() {
@@ -383,6 +422,9 @@ public final class Promises {
         go(o, 3);
         due("PAY of two", o.smith(0, 5), 8);
         due("JOBS done", o.smith(0, 4), 2);
+        OneAnvil h = of("smithy 1 30 9;smith 15;job 0 face 2 15 0");
+        go(h, 1);
+        due("HOT from it on", h.smith(0, 2), 1);
         due("no SMITH 3", o.smith(3, 0), -2);
         due("no SMITH -1", o.smith(-1, 0), -2);
         due("no what 9", o.smith(0, 9), -2);
@@ -437,6 +479,9 @@ public final class Promises {
         int[] blows = {0, 0, 2, 2, 1, 1, 2, 0};
         for (int k = 0; k < 8; k++) due("MOMENT " + k, o.moment(), blows[k]);
         due("MOMENT", o.count(7), 8);
+        o.undo();
+        o.undo();
+        due("who has a turn waits no more", o.smith(2, 3), 0);
         OneAnvil p = of(TWO_ON_FACE);
         go(p, 2);
         due("who waits cools", p.smith(1, 0), 9);
@@ -534,6 +579,23 @@ public final class Promises {
         for (int k = 19; k >= 0; k--) due("one of 20", o.undo(), k);
         due("no more", o.undo(), -1);
         due("MOMENT 7", o.count(7), 7);
+        OneAnvil p = of(THREE, "strike 1", "strike 0");
+        p.force(0);
+        go(p, 1);
+        p.force(1);
+        go(p, 4);
+        due("BURNT", p.smith(0, 6), 1);
+        due("undone", p.undo(), 4);
+        due("not BURNT yet", p.smith(0, 6), 0);
+        go(p, 1);
+        for (int k = 0; k < 5; k++) p.undo();
+        due("no cold BLOW yet", p.smith(0, 8), 0);
+        p.force(-1);
+        go(p, 5);
+        due("done", p.job(0, 5), 5);
+        p.undo();
+        due("not done yet", p.job(0, 5), -1);
+        due("nor as bits", p.count(8), 2);
     }
 
     // ---- 15 to 23: what would be
@@ -610,6 +672,8 @@ public final class Promises {
         go(o, 2);
         due("two at once", o.rota(1, 0), 2);
         due("the set", o.rota(1, 1), 3);
+        o.worth(0, 1);
+        due("behind WORTH", o.rota(1, 0), 2);
         due("0 MOMENTS", o.rota(0, 0), -1);
         due("5 MOMENTS", o.rota(5, 0), -1);
         due("what 5", o.rota(4, 5), -1);
@@ -632,6 +696,7 @@ public final class Promises {
         OneAnvil o = of(LONE, "strike 0", "strike hot if left < 30;strike 0");
         int[] want = {6, 5, -2, -2};
         for (int k = 0; k < 4; k++) due("round " + k, o.round(k), want[k]);
+        due("behind ROUND", o.ready(0), 38);
         due("what 4", o.round(4), -1);
         due("what -1", o.round(-1), -1);
         due("without a SMITHY", new OneAnvil().round(0), -1);
@@ -647,6 +712,25 @@ public final class Promises {
             "strike 0");
         q.force(0);
         due("97 and 49 and 33", q.round(0), 97 * 49 * 33);
+        OneAnvil r = of(LONE);
+        r.round(0);
+        go(r, 6);
+        due("from HEAT 24 on", r.round(0), 6);
+        OneAnvil s = of("smithy 2 30 99;smith 10;job 0 face 1 15 0;job 0 heel 1 1 1", "strike 1");
+        due("BLOWS without end", s.round(1), 5);
+        s.force(0);
+        due("cold for ever", s.round(0), 1);
+        due("no cold BLOWS", s.round(1), 0);
+        OneAnvil t = of("smithy 2 99 99;smith 10;job 0 face 9 15 0", "strike 1 if heat<5 or heat>=50");
+        t.force(0);
+        due("from HEAT 0 on", t.round(0), 1);
+        OneAnvil u = of("smithy 2 30 99;smith 10;smith 8;smith 3;job 0 face 3 15 0;job 1 beak 1 8 0;job 2 weld 1 3 0");
+        // They go round in 6, 5 and 5 MOMENTS; both others heat in MOMENT 17 alone: SMITH 2, of HEAT 1, too.
+        int[] three = {30, 25, 24, 0};
+        for (int k = 0; k < 4; k++) due("three at once, " + k, u.round(k), three[k]);
+        go(u, 1);
+        u.quench(2);
+        due("one MOMENT later", u.round(3), 1);
         due("without SMITHS", of("smithy 1 20 9").round(0), 1);
         due("who has no JOB", of("smithy 1 20 9;smith 3").round(1), 0);
     }
@@ -667,6 +751,9 @@ public final class Promises {
         OneAnvil p = of("smithy 1 20 9;smith 1;smith 1;job 0 weld 1 1 50;job 0 face 1 1 1;job 1 beak 1 1 1");
         due("most JOBS first", p.beside(0), 2);
         due("then PAY", p.beside(1), 2);
+        OneAnvil r = of("smithy 1 20 9;smith 1;smith 1;job 0 face 1 1 1;job 0 weld 1 1 50;job 1 beak 1 1 1");
+        due("behind an order", r.order(0, 0) * 10 + r.beside(0), 42);
+        due("not fewer of more PAY", r.beside(1), 2);
         OneAnvil q = of("smithy 1 20 9;smith 1;smith 1;job 0 face 1 1 3;job 1 face 1 1 3");
         due("none is ahead", q.beside(2), -1);
         due("of JOB 0", q.beside(3), 1);
@@ -676,6 +763,8 @@ public final class Promises {
         promise = 21;
         OneAnvil o = of(THREE);
         due("SMITH 0 for 5", o.worth(0, 5), 1);
+        due("SMITH 0 for 4", o.worth(0, 4), 0);
+        due("SMITH 0 for 1", o.worth(0, 1), 0);
         due("SMITH 2 for 7", o.worth(2, 7), 0);
         due("0 MOMENTS", o.worth(0, 0), -100000);
         due("61 MOMENTS", o.worth(0, 61), -100000);
@@ -708,6 +797,14 @@ public final class Promises {
         due("cold ones, too", p.splits(0, 0), 98);
         p.moment();
         due("from MOMENT 1 on", p.splits(0, 0), 98);
+        OneAnvil q = of(LONE, "strike moment/401", "strike moment/402");
+        q.force(0);
+        due("in MOMENT 499", q.splits(0, 0), 499);
+        q.force(1);
+        due("in MOMENT 500", q.splits(0, 0), -2);
+        q.moment();
+        due("in MOMENT 500, from 1 on", q.splits(0, 0), 500);
+        due("whose", q.splits(0, 1), 0);
     }
 
     private static void order() {
@@ -732,6 +829,9 @@ public final class Promises {
         go(p, 1);
         due("HEAT 10 goes with the other one", p.order(1, 0), 5);
         due("what comes first then", p.order(1, 1), 2);
+        OneAnvil h = of("smithy 1 60 99;smith 10;job 0 face 1 20 0");
+        go(h, 2);
+        due("HEAT 20 stays with the JOB", h.order(0, 0), 3);
         String six = "smithy 1 60 99;smith 20" + times(";job 0 face 1 10 0", 6);
         OneAnvil q = of(six);
         due("6 JOBS", q.order(0, 0), -3);
@@ -788,6 +888,10 @@ public final class Promises {
         o.note(-1, 0, 0);
         o.note(99, 2, 1);
         due("at the last", o.ruled(0), 2);
+        String hot = "strike hot";
+        OneAnvil p = of(THREE, hot, hot, hot, hot, hot, hot);
+        due("all and none", p.ruled(0), 7);
+        due("all alike", p.look(9, 1), 7);
     }
 
     private static void look() {
@@ -811,6 +915,7 @@ public final class Promises {
         OneAnvil p = of(THREE, "strike hot if not smith=1");
         due("the beak", p.look(3, 0), 1);
         due("each for itself", p.look(3, 1), 1);
+        due("none alone", of(THREE).look(3, 1), 1);
     }
 
     private static void second() {
@@ -857,6 +962,10 @@ public final class Promises {
         OneAnvil p = of("smithy 1 20 99;smith 20;job 0 face 9 50 0");
         due("BURNT", p.days(2, 10, 0, 1), 10);
         due("no BLOWS", p.days(2, 10, 0, 0), 0);
+        due("BURNT anew", p.days(1, 10, 0, 1), 5);
+        due("one MOMENT", p.days(1, 1, 0, 1), 0);
+        due("nothing is BURNT", p.days(1, 99, 100, 1), 0);
+        due("behind DAYS", p.ahead(0, 1, 0), 20);
         int[][] wrong = {{0, 1, 0, 0}, {11, 1, 0, 0}, {1, 0, 0, 0}, {1, 100, 0, 0}, {1, 1, -1, 0}, {1, 1, 101, 0},
             {1, 1, 0, 2}, {1, 1, 0, -1}};
         for (int[] w : wrong) due("wrong " + w[0] + " " + w[1], o.days(w[0], w[1], w[2], w[3]), -1);
@@ -903,6 +1012,7 @@ public final class Promises {
         due("IMAGE -1", o.back(-1), -1);
         go(o, 3);
         o.note(3, 0, 1);
+        o.note(3, 1, 3);
         o.seed(5);
         o.force(0);
         o.image(1);
@@ -918,12 +1028,14 @@ public final class Promises {
         o.feed(0, 0, 0, 0, 0);
         go(o, 1);
         due("MOMENT", o.back(1), 3);
-        int[] want = {2, 30, 6, 3, 4, 2, 0, 3, 0, 0, 0, 1, 0, 5, 20};
+        int[] want = {2, 30, 6, 3, 4, 2, 0, 3, 0, 0, 0, 2, 0, 5, 20};
         for (int k = 0; k < want.length; k++) due("count " + k, o.count(k), want[k]);
         due("nothing can be UNDONE", o.undo(), -1);
         due("waits", o.smith(2, 3), 1);
         due("worn", o.worn(1), 3);
         due("JOB", o.job(1, 2), 1);
+        due("NOTES", o.ruled(0), 1);
+        due("of none", o.ruled(1), -1);
         o.force(-1);
         go(o, 4);
         due("goes on as it did", o.count(8), 15);
