@@ -235,6 +235,8 @@ public final class Promises {
         smithyFault(one + "job 0 face 1 1 0;smith 1", 18, 1);
         smithyFault(two + "job 1 face 1 1 0", 26, 1);
         smithyFault(two + "job 0 side 1 1 0", 28, 0);
+        smithyFault(two + "job 0", 27, 0);
+        smithyFault(two + "job 0;part 0 1", 27, 0);
         smithyFault(two + "job 0 3 1 1 0", 28, 0);
         smithyFault(two + "job 0 face 0 1 0", 33, 1);
         smithyFault(two + "job 0 face 31 1 0", 33, 1);
@@ -1019,6 +1021,8 @@ public final class Promises {
         o.force(-1);
         o.seed(6);
         o.note(-1, 0, 0);
+        o.note(9, 2, 99);
+        o.note(8, 2, 77);
         go(o, 4);
         o.aside(0);
         tell(o, LONE);
