@@ -1,105 +1,19 @@
 /** Each promise of the document by examples that were worked out by hand. */
-public final class Promises {
+public final class Promises extends Bench {
     /** Of its MOMENTS 0 to 7: BLOWS 0 0 2 2 1 1 2 0; all is done at 7; the beak splits in 6. */
     private static final String THREE = "smithy 2 30 6;smith 10;smith 8;smith 15;job 0 face 3 15 5;"
         + "job 1 beak 2 12 7;job 2 weld 2 20 9;job 0 heel 1 5 3;part 1 2";
     /** One that strikes at HEATS 20 18 16, then heats. */
     private static final String LONE = "smithy 2 30 99;smith 10;job 0 face 30 15 4";
     private static final String TWO_ON_FACE = "smithy 1 30 99;smith 10;smith 10;job 0 face 2 10 0;job 1 face 2 10 0";
-    private static final int FAR_OUT = 1 << 31;
-
-    private static int passed = 0;
-    private static int failed = 0;
-    private static int promise = 0;
 
     public static void main(String[] args) {
-        newObject();
-        feed();
-        end();
-        smithy();
-        smithyFaults();
-        rule();
-        ruleFaults();
-        ruleWords();
-        force();
-        smith();
-        job();
-        worn();
-        moment();
-        quench();
-        mend();
-        aside();
-        undo();
-        ahead();
-        ready();
-        all();
-        rota();
-        round();
-        beside();
-        worth();
-        splits();
-        order();
-        note();
-        ruled();
-        look();
-        second();
-        seed();
-        days();
-        count();
-        image();
-        back();
-        System.out.println(passed + " passed, " + failed + " failed");
-        if (failed != 0) System.exit(1);
-    }
-
-    private static void due(String what, int got, int want) {
-        if (got == want) {
-            passed++;
-        } else {
-            failed++;
-            System.out.println("promise " + promise + ", " + what + ": " + got + ", due is " + want);
-        }
-    }
-
-    private static void tell(OneAnvil o, String text) {
-        o.end(0);
-        for (int i = 0; i < text.length(); i += 20) {
-            int[] v = new int[5];
-            for (int k = 0; k < 20; k++) v[k / 4] = v[k / 4] << 8 | (i + k < text.length() ? text.charAt(i + k) : 0);
-            o.feed(v[0], v[1], v[2], v[3], v[4]);
-        }
-        if (o.end(text.length()) != text.length()) throw new IllegalStateException(text);
-    }
-
-    private static OneAnvil of(String smithy, String... rules) {
-        OneAnvil o = new OneAnvil();
-        tell(o, smithy);
-        if (o.smithy() < 0) throw new IllegalStateException(smithy);
-        for (String rule : rules) {
-            tell(o, rule);
-            if (o.rule() < 0) throw new IllegalStateException(rule);
-        }
-        return o;
-    }
-
-    private static void go(OneAnvil o, int n) {
-        for (int k = 0; k < n; k++) o.moment();
-    }
-
-    private static String times(String text, int n) {
-        StringBuilder b = new StringBuilder();
-        for (int k = 0; k < n; k++) b.append(text);
-        return b.toString();
-    }
-
-    private static int fault(int place, int code) {
-        return -2 - (1 + 8 * place + code);
+        runAll(Promises.class);
     }
 
     // ---- 1 to 6: what is told
 
     private static void newObject() {
-        promise = 1;
         OneAnvil o = new OneAnvil();
         due("NONE", OneAnvil.NONE, -1);
         int[] want = {0, 0, 0, 0, 0, 0, -1, 0, 0, 0, 0, 0, 0, 0, 0};
@@ -112,7 +26,6 @@ public final class Promises {
     }
 
     private static void feed() {
-        promise = 2;
         OneAnvil o = new OneAnvil();
         for (int k = 1; k <= 20; k++) due("feed " + k, o.feed(1, 2, 3, 4, 5), 20 * k);
         due("401 and more", o.feed(1, 2, 3, 4, 5), -1);
@@ -131,14 +44,13 @@ public final class Promises {
     }
 
     private static void end() {
-        promise = 3;
         OneAnvil o = new OneAnvil();
         due("0 of none", o.end(0), 0);
         due("1 of none", o.end(1), -1);
         o.feed(1, 2, 3, 4, 5);
         due("too many", o.end(21), -1);
         due("below 0", o.end(-1), -1);
-        due("far below 0", o.end(FAR_OUT), -1);
+        due("far below 0", o.end(FAR_BELOW), -1);
         due("nothing happened", o.count(14), 20);
         due("as many", o.end(20), 20);
         due("fewer", o.end(7), 7);
@@ -146,7 +58,6 @@ public final class Promises {
     }
 
     private static void smithy() {
-        promise = 4;
         OneAnvil o = of(LONE, "strike hot");
         o.force(0);
         o.seed(9);
@@ -254,7 +165,6 @@ public final class Promises {
     }
 
     private static void rule() {
-        promise = 5;
         OneAnvil o = new OneAnvil();
         tell(o, "strike");
         due("at fault", o.rule(), fault(6, 0));
@@ -397,7 +307,6 @@ public final class Promises {
     }
 
     private static void force() {
-        promise = 6;
         OneAnvil o = of(LONE, "strike 0", "strike 1");
         due("was none", o.force(1), -1);
         due("was 1", o.force(0), 1);
@@ -413,7 +322,6 @@ public final class Promises {
     // ---- 7 to 14: acts
 
     private static void smith() {
-        promise = 7;
         OneAnvil o = of(THREE);
         due("no job is hot yet", o.smith(0, 2), 0);
         go(o, 4);
@@ -431,7 +339,7 @@ public final class Promises {
         due("no SMITH -1", o.smith(-1, 0), -2);
         due("no what 9", o.smith(0, 9), -2);
         due("no what -1", o.smith(0, -1), -2);
-        due("far out", o.smith(FAR_OUT, FAR_OUT), -2);
+        due("far out", o.smith(FAR_BELOW, FAR_BELOW), -2);
         OneAnvil p = of("smithy 1 20 99;smith 15;job 0 face 2 10 0;job 0 beak 2 10 0", "strike 0", "strike 1");
         go(p, 1);
         due("HEAT 15", p.smith(0, 0), 15);
@@ -450,7 +358,6 @@ public final class Promises {
     }
 
     private static void job() {
-        promise = 8;
         OneAnvil o = of(THREE);
         go(o, 6);
         int[][] want = {{0, 0, 0, 15, 5, 5}, {1, 1, 0, 12, 7, 4}, {2, 3, 1, 20, 9, -1}, {0, 2, 1, 5, 3, -1}};
@@ -464,7 +371,6 @@ public final class Promises {
     }
 
     private static void worn() {
-        promise = 9;
         OneAnvil o = of(THREE);
         due("beak at first", o.worn(1), 2);
         go(o, 7);
@@ -476,7 +382,6 @@ public final class Promises {
     }
 
     private static void moment() {
-        promise = 10;
         OneAnvil o = of(THREE);
         int[] blows = {0, 0, 2, 2, 1, 1, 2, 0};
         for (int k = 0; k < 8; k++) due("MOMENT " + k, o.moment(), blows[k]);
@@ -502,7 +407,6 @@ public final class Promises {
     }
 
     private static void quench() {
-        promise = 11;
         OneAnvil o = of(THREE);
         due("cold", o.quench(0), -1);
         go(o, 1);
@@ -517,7 +421,6 @@ public final class Promises {
     }
 
     private static void mend() {
-        promise = 12;
         OneAnvil o = of("smithy 1 20 9;part 1 7");
         due("half, downwards", o.mend(1), 3);
         due("again", o.mend(1), 1);
@@ -531,7 +434,6 @@ public final class Promises {
     }
 
     private static void aside() {
-        promise = 13;
         OneAnvil o = of("smithy 1 30 99;smith 9;smith 9;job 0 face 2 5 0;job 0 beak 2 5 0;job 1 heel 1 5 0;job 0 heel 3 5 0");
         go(o, 2);
         due("BLOWS", o.job(0, 2), 1);
@@ -554,7 +456,6 @@ public final class Promises {
     }
 
     private static void undo() {
-        promise = 14;
         OneAnvil o = of(THREE);
         due("none can", o.undo(), -1);
         go(o, 3);
@@ -603,7 +504,6 @@ public final class Promises {
     // ---- 15 to 23: what would be
 
     private static void ahead() {
-        promise = 15;
         OneAnvil o = of(THREE, "strike 0");
         due("now", o.ahead(0, 0, 1), 3);
         due("HEAT at 4", o.ahead(2, 4, 0), 26);
@@ -623,7 +523,6 @@ public final class Promises {
     }
 
     private static void ready() {
-        promise = 16;
         OneAnvil o = of(THREE, "strike 0");
         int[] want = {5, 4, 7, 7};
         for (int j = 0; j < 4; j++) due("JOB " + j, o.ready(j), want[j]);
@@ -651,7 +550,6 @@ public final class Promises {
     }
 
     private static void all() {
-        promise = 17;
         OneAnvil o = of(THREE, "strike 0");
         due("all", o.all(), 7);
         go(o, 3);
@@ -666,7 +564,6 @@ public final class Promises {
     }
 
     private static void rota() {
-        promise = 18;
         OneAnvil o = of(THREE);
         int[] want = {2, 0, 0, 3, -2};
         for (int k = 0; k < 5; k++) due("3, " + k, o.rota(3, k), want[k]);
@@ -694,7 +591,6 @@ public final class Promises {
     }
 
     private static void round() {
-        promise = 19;
         OneAnvil o = of(LONE, "strike 0", "strike hot if left < 30;strike 0");
         int[] want = {6, 5, -2, -2};
         for (int k = 0; k < 4; k++) due("round " + k, o.round(k), want[k]);
@@ -738,7 +634,6 @@ public final class Promises {
     }
 
     private static void beside() {
-        promise = 20;
         OneAnvil o = of(THREE);
         int[] want = {2, 12, 0, 1, -1};
         for (int k = 0; k < 5; k++) due("beside " + k, o.beside(k), want[k]);
@@ -762,7 +657,6 @@ public final class Promises {
     }
 
     private static void worth() {
-        promise = 21;
         OneAnvil o = of(THREE);
         due("SMITH 0 for 5", o.worth(0, 5), 1);
         due("SMITH 0 for 4", o.worth(0, 4), 0);
@@ -780,7 +674,6 @@ public final class Promises {
     }
 
     private static void splits() {
-        promise = 22;
         OneAnvil o = of(THREE);
         due("MOMENT", o.splits(1, 0), 6);
         due("whose", o.splits(1, 1), 2);
@@ -810,7 +703,6 @@ public final class Promises {
     }
 
     private static void order() {
-        promise = 23;
         OneAnvil o = of(THREE, "strike 0");
         int[] want = {7, 0, 3, -2, -2, -2};
         for (int k = 0; k < 6; k++) due("of several the first, " + k, o.order(0, k), want[k]);
@@ -846,7 +738,6 @@ public final class Promises {
     // ---- 24 to 27: notes, a second face
 
     private static void note() {
-        promise = 24;
         OneAnvil none = new OneAnvil();
         due("without a SMITHY", none.note(0, 0, 0), -2);
         due("none, without a SMITHY", none.note(-1, 9, 9), 0);
@@ -866,7 +757,6 @@ public final class Promises {
     }
 
     private static void ruled() {
-        promise = 25;
         OneAnvil o = of(THREE, "strike 0", "strike hot");
         due("without NOTES", o.ruled(0), 3);
         due("none ahead of 0", o.ruled(1), -1);
@@ -897,7 +787,6 @@ public final class Promises {
     }
 
     private static void look() {
-        promise = 26;
         OneAnvil o = of(THREE, "strike 0", "strike hot");
         due("the face", o.look(3, 0), 0);
         due("two are alike", o.look(3, 1), 2);
@@ -921,7 +810,6 @@ public final class Promises {
     }
 
     private static void second() {
-        promise = 27;
         due("without a SMITHY", new OneAnvil().second(), -100000);
         due("a weld takes the first", of(THREE).second(), 0);
         due("side by side", of(TWO_ON_FACE).second(), 2);
@@ -939,18 +827,16 @@ public final class Promises {
     // ---- 28 to 32: draws, counts, images
 
     private static void seed() {
-        promise = 28;
         OneAnvil o = new OneAnvil();
         due("0 at first", o.seed(7), 0);
         due("what it was", o.seed(2147483647), 7);
         due("below 0", o.seed(-1), -1);
-        due("far below 0", o.seed(FAR_OUT), -1);
+        due("far below 0", o.seed(FAR_BELOW), -1);
         due("nothing happened", o.count(13), 2147483647);
         due("the greatest", o.seed(0), 2147483647);
     }
 
     private static void days() {
-        promise = 29;
         OneAnvil o = of(THREE);
         // Of x 0 the DRAWS mod 100 are 0 68 88 17 98 27 45 41 22 10 61 52 59 58.
         due("as it goes", o.days(1, 7, 0, 0), 8);
@@ -975,7 +861,6 @@ public final class Promises {
     }
 
     private static void count() {
-        promise = 30;
         OneAnvil o = of(THREE, "strike hot", "strike 0");
         o.force(0);
         go(o, 7);
@@ -986,11 +871,10 @@ public final class Promises {
         for (int k = 0; k < want.length; k++) due("count " + k, o.count(k), want[k]);
         due("what 15", o.count(15), -1);
         due("what -1", o.count(-1), -1);
-        due("far out", o.count(FAR_OUT), -1);
+        due("far out", o.count(FAR_BELOW), -1);
     }
 
     private static void image() {
-        promise = 31;
         OneAnvil o = new OneAnvil();
         due("where nothing was told", o.image(3), 0);
         due("IMAGE 4", o.image(4), -1);
@@ -1007,7 +891,6 @@ public final class Promises {
     }
 
     private static void back() {
-        promise = 32;
         OneAnvil o = of(THREE, "strike 0");
         due("never made", o.back(0), -1);
         due("IMAGE 4", o.back(4), -1);
